@@ -67,11 +67,11 @@ final class UndoSavingTest {
 
     private static void longHistory() {
         CoverShares x = new CoverShares();
-        String[] seen = new String[200];
+        String[] seen = new String[21];
         seen[0] = Due.sets(x);
         int now = 0;
-        for (int change = 0; change < 40; change++) {
-            int set = x.count(0) < 14 ? x.set(change + 1, change + 1) : x.drop(change % 14);
+        for (int change = 0; change < 20; change++) {
+            int set = x.count(0) < 4 ? x.set(change + 1, change + 1) : x.drop(change % 4);
             Due.is("23: a change", set >= 0 ? 1 : 0, 1);
             now++;
             seen[now] = Due.sets(x);
