@@ -125,7 +125,7 @@ final class EndsOfUndoSavingTest {
         x.save(0);
         x.save(1);
         Due.is("24: save is no change", x.count(5), 0);
-        Kept.asked(x);
+        Kept.asks().forEach(ask -> ask.applyAsInt(x));
         Due.is("12 to 22: answers are no changes", x.count(5), 0);
         Due.is("23: there is nothing to undo", x.undo(), CoverShares.NOT_POSSIBLE);
     }

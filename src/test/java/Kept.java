@@ -1,3 +1,7 @@
+import java.util.ArrayList;
+import java.util.List;
+import java.util.function.ToIntFunction;
+
 /** Objects at the ends of what there can be, and all that an object keeps, also what no single call shows. */
 final class Kept {
     /** A new object; no cover; nothing is needed; a few sets; all that there can be; 14 sets, and a text with a fault. */
@@ -166,23 +170,25 @@ final class Kept {
         return text.toString();
     }
 
-    /** One call of each kind that only answers, with each of its numbers: 36 calls. */
-    static String asked(CoverShares x) {
-        StringBuilder text = new StringBuilder();
-        for (int what = 0; what <= 7; what++) {
-            text.append(' ').append(x.ofSet(0, what));
+    /** Each kind of call that only answers, with each of its numbers. */
+    static List<ToIntFunction<CoverShares>> asks() {
+        List<ToIntFunction<CoverShares>> asks = new ArrayList<>();
+        for (int number = 0; number <= 7; number++) {
+            int what = number;
+            asks.add(x -> x.ofSet(0, what));
+            asks.add(x -> x.ofThing(0, what % 3));
+            asks.add(x -> x.count(what % 6));
+            asks.add(x -> x.shared(what % 6));
+            asks.add(x -> x.greedy(what % 3));
+            asks.add(x -> x.least(what % 2));
+            asks.add(x -> x.dearest(what % 2));
         }
-        for (int what = 0; what <= 5; what++) {
-            text.append(' ').append(x.count(what)).append(' ').append(x.shared(what));
-        }
-        for (int what = 0; what <= 2; what++) {
-            text.append(' ').append(x.ofThing(0, what)).append(' ').append(x.greedy(what));
-        }
-        for (int what = 0; what <= 1; what++) {
-            text.append(' ').append(x.least(what)).append(' ').append(x.dearest(what));
-        }
-        text.append(' ').append(x.covers(7000)).append(' ').append(x.tightCovers()).append(' ').append(x.staysUpTo(0));
-        text.append(' ').append(x.check(0)).append(' ').append(x.check(16383)).append(' ').append(x.fault());
-        return text.toString();
+        asks.add(x -> x.covers(7000));
+        asks.add(CoverShares::tightCovers);
+        asks.add(x -> x.staysUpTo(0));
+        asks.add(x -> x.check(0));
+        asks.add(x -> x.check(16383));
+        asks.add(CoverShares::fault);
+        return asks;
     }
 }

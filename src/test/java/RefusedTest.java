@@ -1,3 +1,6 @@
+import java.util.List;
+import java.util.function.ToIntFunction;
+
 /**
  * CONVENTIONS, and promises 2 to 25: each call that is refused, in objects at the ends of what there can be. It names
  * the first error that applies, and it changes nothing: neither what the object shows nor its history, slots and text.
@@ -48,6 +51,7 @@ final class RefusedTest {
         undo();
         restoreWhatWasNotSaved();
         noneIsNoError();
+        dearestOfNothingChangesNothing();
         Due.end("RefusedTest");
     }
 
@@ -298,15 +302,29 @@ final class RefusedTest {
         Due.is("12: ofSet(2, 5), no such set", x.ofSet(2, 5), NO_SUCH);
     }
 
-    /** "---- covers; nothing changes": all answers, twice, and nothing that is kept is another one. */
+    /** "---- covers; nothing changes": each answer alone and then all of them, and nothing that is kept is another one. */
     private static void answersChangeNothing(String state) {
-        for (int kind = 0; kind < Kept.LOOKS; kind++) {
-            CoverShares x = Kept.made(state);
-            String first = Kept.asked(x);
-            Due.same("the answers once more in the state " + state, Kept.asked(x), first);
-            Due.same("the answers a third time in the state " + state, Kept.asked(x), first);
-            String due = Kept.look(Kept.made(state), kind);
-            Due.same("after all answers in the state " + state + ", look " + kind, Kept.look(x, kind), due);
+        List<ToIntFunction<CoverShares>> asks = Kept.asks();
+        for (int number = 0; number < asks.size(); number++) {
+            ToIntFunction<CoverShares> ask = asks.get(number);
+            refused("the answer " + number, state, ask::applyAsInt, ask.applyAsInt(Kept.made(state)));
         }
+        CoverShares x = Kept.made(state);
+        for (int time = 0; time < 2; time++) {
+            for (int number = 0; number < asks.size(); number++) {
+                int due = asks.get(number).applyAsInt(Kept.made(state));
+                Due.is("the answer " + number + " behind others in the state " + state, asks.get(number).applyAsInt(x), due);
+            }
+        }
+    }
+
+    /** The same where NONE is the answer, and both slots are in use. */
+    private static void dearestOfNothingChangesNothing() {
+        CoverShares x = Kept.made("small");
+        CoverShares twin = Kept.made("small");
+        x.need(0);
+        twin.need(0);
+        Due.is("21: dearest(0) of nothing", x.dearest(0), CoverShares.NONE);
+        Due.same("21: the slots after it", Kept.look(x, Kept.SLOTS), Kept.look(twin, Kept.SLOTS));
     }
 }
