@@ -32,6 +32,7 @@ final class LanguageTest {
         Due.is("while loops without a counter", times(code, "\\bwhile\\b"), 0);
         Due.is("more classes than twelve", times(code, "\\bclass\\b") > 12 ? 1 : 0, 0);
         longMethods(code);
+        madeInConstructorsAlone(code);
         Due.end("LanguageTest");
     }
 
@@ -52,5 +53,20 @@ final class LanguageTest {
             Due.is("longer than 60 lines is " + matcher.group(2), matcher.group(3).split("\n").length > 60 ? 1 : 0, 0);
         }
         Due.is("methods are found", methods > 60 ? 1 : 0, 1);
+    }
+
+    /** Rule 12, as README.md tells it: nothing is made but by fields' initialisers and in rows that constructors fill. */
+    private static void madeInConstructorsAlone(String code) {
+        int made = 0;
+        for (String line : code.split("\n")) {
+            if (line.matches(".*\\bnew\\b.*")) {
+                made++;
+                boolean field = line.matches(" {4}( {4})?private final .* = new .*;");
+                boolean row = line.matches(" {16}states\\[\\w+\\] = new State\\(\\);");
+                Due.is("made by the constructor is" + line, field || row ? 1 : 0, 1);
+            }
+        }
+        Due.is("something is made", made > 20 ? 1 : 0, 1);
+        Due.is("made by the library", times(code, "\\b(clone|copyOf|copyOfRange|toCharArray|valueOf)\\b"), 0);
     }
 }
